@@ -1,0 +1,31 @@
+/** Counts and prints the calls whose answer is not the one that is due. */
+final class Due {
+    private final String about;
+    private int asked;
+    private int wrong;
+
+    Due(String about) {
+        this.about = about;
+    }
+
+    void is(String call, long got, long want) {
+        asked++;
+        if (got != want) {
+            wrong++;
+            if (wrong <= 50) {
+                System.out.println(about + ": " + call + " answered " + got + ", due is " + want);
+            }
+        }
+    }
+
+    int wrong() {
+        return wrong;
+    }
+
+    void end() {
+        System.out.println(about + ": " + asked + " answers looked at, " + wrong + " not as due");
+        if (wrong != 0 || asked == 0) {
+            System.exit(1);
+        }
+    }
+}
