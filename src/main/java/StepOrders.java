@@ -112,16 +112,7 @@ public final class StepOrders {
             return refused(BAD);
         }
         all.goThrough(now);
-        switch (what) {
-            case 0:
-                return all.count();
-            case 1:
-                return all.standstills();
-            case 2:
-                return all.wrongOnes();
-            default:
-                return all.unlikeEnds();
-        }
+        return all.howMany(what);
     }
 
     public int order(int s, int k) {
@@ -318,13 +309,14 @@ public final class StepOrders {
     }
 
     public long digest() {
+        all.goThrough(now);
         long h = DIGEST_BEGIN;
         for (int what = 0; what <= 8; what++) {
             h = 31L * h + told(what);
         }
         h = digestSteps(h);
         for (int what = 0; what <= 3; what++) {
-            h = 31L * h + orders(what);
+            h = 31L * h + all.howMany(what);
         }
         h = 31L * h + races();
         for (int what = 0; what <= 5; what++) {
@@ -346,7 +338,6 @@ public final class StepOrders {
     }
 
     private long digestEnds(long before) {
-        all.goThrough(now);
         long h = before;
         for (int ending = 0; ending < AllOrders.ENDINGS; ending++) {
             if (all.endsAt(ending)) {
@@ -391,7 +382,7 @@ public final class StepOrders {
         }
 
         static int packed(int kind, int x, int v) {
-            return kind | x << 3 | v << 5;
+            return kind | (x << 3) | (v << 5);
         }
 
         static int kind(int step) {
@@ -399,11 +390,11 @@ public final class StepOrders {
         }
 
         static int target(int step) {
-            return step >> 3 & 3;
+            return (step >> 3) & 3;
         }
 
         static int value(int step) {
-            return step >> 5 & 15;
+            return (step >> 5) & 15;
         }
 
         static int readBits(int step) {
@@ -459,7 +450,7 @@ public final class StepOrders {
         }
 
         private static int at(long moment, int place) {
-            return (int) (moment >>> 4 * place) & 15;
+            return (int) (moment >>> (4 * place)) & 15;
         }
 
         private static long with(long moment, int place, int value) {
@@ -522,7 +513,7 @@ public final class StepOrders {
         }
 
         static int threadAt(int row, int k) {
-            return row >>> 4 + 2 * (ALL_STEPS - 1 - k) & 3;
+            return (row >>> (4 + 2 * (ALL_STEPS - 1 - k))) & 3;
         }
 
         static int withThreadAt(int row, int k, int t) {
@@ -531,10 +522,10 @@ public final class StepOrders {
             }
             int shift = 2 * (ALL_STEPS - k);
             int threads = row >>> 4;
-            int ahead = threads >>> shift << shift;
-            int behind = threads & (1 << shift) - 1;
-            int longer = ahead | t << shift - 2 | behind >>> 2;
-            return longer << 4 | length(row) + 1;
+            int ahead = (threads >>> shift) << shift;
+            int behind = threads & ((1 << shift) - 1);
+            int longer = ahead | (t << (shift - 2)) | (behind >>> 2);
+            return (longer << 4) | (length(row) + 1);
         }
     }
 
@@ -590,7 +581,8 @@ public final class StepOrders {
 
         /** The step, or NONE if there is none. */
         int stepAt(int t, int i) {
-            return hasStep(t, i) ? steps[t * STEPS + i] : NONE;
+            boolean there = t >= 0 && t < THREADS && i >= 0 && i < counts[t];
+            return there ? steps[t * STEPS + i] : NONE;
         }
 
         void addStep(int t, int step) {
@@ -775,16 +767,17 @@ public final class StepOrders {
             return count;
         }
 
-        int standstills() {
-            return standstills;
-        }
-
-        int wrongOnes() {
-            return wrongOnes;
-        }
-
-        int unlikeEnds() {
-            return unlikeEnds;
+        int howMany(int what) {
+            switch (what) {
+                case 0:
+                    return count;
+                case 1:
+                    return standstills;
+                case 2:
+                    return wrongOnes;
+                default:
+                    return unlikeEnds;
+            }
         }
 
         int rowAt(int s) {
@@ -827,7 +820,7 @@ public final class StepOrders {
             }
             int sleeping = asleep;
             for (int t = 0; t < THREADS; t++) {
-                if ((able & ~sleeping & 1 << t) != 0) {
+                if ((able & ~sleeping & (1 << t)) != 0) {
                     int longer = Row.withThreadAt(row, Row.length(row), t);
                     int stillAsleep = all.notWoken(moment, t, sleeping);
                     goOn(all, all.threads.stepDone(moment, t), longer, stillAsleep);
@@ -840,7 +833,7 @@ public final class StepOrders {
             int step = threads.nextStep(moment, t);
             int bits = 0;
             for (int u = 0; u < THREADS; u++) {
-                if ((sleeping & 1 << u) != 0 && !Step.tied(step, threads.nextStep(moment, u))) {
+                if ((sleeping & (1 << u)) != 0 && !Step.tied(step, threads.nextStep(moment, u))) {
                     bits |= 1 << u;
                 }
             }
