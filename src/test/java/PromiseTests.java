@@ -194,6 +194,14 @@ public final class PromiseTests {
         due("7: orders(4)", x.orders(4), BAD);
         due("7: orders(-1)", x.orders(-1), BAD);
         due("7: ADD is by 10 left over", with("0aa7;0aa7;").sort(0, 0), 4000);
+        StepOrders w = with("0wa1;");
+        due("7: asked", w.ends(0), 1000);
+        w.drops(0);
+        w.step(0, WRITE, 0, 2);
+        due("7: asked of another step", w.ends(0), 2000);
+        w.back();
+        w.back();
+        due("7: asked of the first one", w.ends(0), 1000);
         StepOrders z = with("0aa1;1aa2;");
         due("7: two sorts of one end", z.orders(0) * 10 + z.orders(3), 21);
     }
