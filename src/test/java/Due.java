@@ -9,8 +9,16 @@ final class Due {
     }
 
     void is(String call, long got, long want) {
+        hold(call, got == want, String.valueOf(got), String.valueOf(want));
+    }
+
+    void same(String call, String got, String want) {
+        hold(call, got.equals(want), got, want);
+    }
+
+    private void hold(String call, boolean fine, String got, String want) {
         asked++;
-        if (got != want) {
+        if (!fine) {
             wrong++;
             if (wrong <= 50) {
                 System.out.println(about + ": " + call + " answered " + got + ", due is " + want);
